@@ -16,6 +16,7 @@ public final class PromiseTest {
         insertNumbersAndOrders();
         insertKeepsSiblingsByStamp();
         insertThrows();
+        callsThatThrowLeaveTheClock();
         removeCounts();
         removeThrows();
         noteIsNumbered();
@@ -168,9 +169,27 @@ public final class PromiseTest {
         for (int value : new int[] {-1, 100, MIN, MAX}) {
             fails("2 value " + value, x, ARG, () -> x.insert(0, 0, value, true));
         }
-        x.insert(1, NONE, 2, false);
+    }
+
+    private static void callsThatThrowLeaveTheClock() {
+        Mergeparlour x = text("BB");
+        x.note(0, 0, 1);
+        x.remove(0, 1);
+        fails("2 value", x, ARG, () -> x.insert(0, NONE, 100, true));
+        fails("2 value", x, ARG, () -> x.insert(0, 1, -1, true));
+        fails("2 behind", x, OUT, () -> x.insert(0, -2, 1, true));
+        fails("2 behind", x, OUT, () -> x.insert(0, 2, 1, true));
+        fails("3 not there", x, NOT, () -> x.remove(0, 1));
+        fails("4 rows", x, ARG, () -> x.note(0, 0, 4));
+        fails("4 not there", x, NOT, () -> x.note(0, 1, 1));
+        fails("5 not there", x, NOT, () -> moved(x, 0, 0, 1));
+        fails("6 to", x, OUT, () -> x.sync(0, 4));
+        x.insert(0, NONE, 5, true);
+        for (int turn = 0; turn < 5; turn++) {
+            x.insert(1, NONE, turn, true);
+        }
         x.sync(1, 0);
-        Checks.due("2 a call that throws leaves the clock", "1 0", order(x, 0));
+        Checks.due("2 to 5 stamps go on as if nothing was", "7 2 6 5 4 3 0", order(x, 0));
     }
 
     private static void removeCounts() {
