@@ -666,11 +666,11 @@ public final class Mergeparlour {
 
         /** A cut is named by the place of the line behind it; behind the last line there is none. */
         private boolean isBadCut(int cut) {
-            if (cut >= there.size() || beginsParagraph(cut)) {
+            if (cut >= there.size() || begins.at(cut) == 1) {
                 return false;
             }
-            boolean lonelyAhead = beginsParagraph(cut - 1);
-            boolean lonelyBehind = cut + 1 == there.size() || beginsParagraph(cut + 1);
+            boolean lonelyAhead = begins.at(cut - 1) == 1;
+            boolean lonelyBehind = cut + 1 == there.size() || begins.at(cut + 1) == 1;
             return lonelyAhead || lonelyBehind;
         }
     }
